@@ -209,8 +209,7 @@ public final class HauntSums {
         if (!now.hasGhost(g) || !within(n, 0, FAR) || !within(what, 0, 1)) {
             return BAD;
         }
-        walk.begin(now);
-        walk.go(n);
+        walkFromNow(n);
         return what == 0 ? walk.room[g] : walk.left[g];
     }
 
@@ -240,8 +239,7 @@ public final class HauntSums {
         if (!isRoom(room) || !within(n, 0, FAR)) {
             return BAD;
         }
-        walk.begin(now);
-        walk.go(n);
+        walkFromNow(n);
         return walk.harmIn[room];
     }
 
@@ -288,8 +286,7 @@ public final class HauntSums {
         if (!within(n, 0, FAR) || !within(what, 0, 1)) {
             return BAD;
         }
-        walk.begin(now);
-        walk.go(n);
+        walkFromNow(n);
         int quietest = 0;
         for (int room = 1; room < ROOMS; room++) {
             if (walk.harmIn[room] < walk.harmIn[quietest]) {
@@ -659,9 +656,13 @@ public final class HauntSums {
 
     // ---- towns that are tried
 
-    private int harmOf(int n) {
+    private void walkFromNow(int n) {
         walk.begin(now);
         walk.go(n);
+    }
+
+    private int harmOf(int n) {
+        walkFromNow(n);
         return walk.harmDone;
     }
 

@@ -47,13 +47,18 @@ public final class LanguageTest {
     private static void face() {
         need(Modifier.isFinal(HauntSums.class.getModifiers()), "the class is not final");
         Set<String> open = new HashSet<>();
+        Set<String> closed = new HashSet<>();
         for (Method m : HauntSums.class.getDeclaredMethods()) {
             if (Modifier.isPublic(m.getModifiers())) {
                 open.add(m.getName());
             } else {
                 need(Modifier.isPrivate(m.getModifiers()) || m.isSynthetic(), "not private: " + m);
+                closed.add(m.getName());
             }
+            need(m.getParameterCount() <= 7, "more than seven parameters: " + m);
         }
+        closed.retainAll(open);
+        need(closed.isEmpty(), "private methods bear names of public ones: " + closed);
         Set<String> due = new TreeSet<>(Arrays.asList(("feed end text fault rule ghost clerk alter post leave nights runs ahead "
             + "rests meets harm best learn quiet better from luck mean see forget kinds second look drift keep back sheet lay "
             + "read torn count").split(" ")));

@@ -182,6 +182,12 @@ public final class PromiseTest {
         oneText("pluss 1 1 0;", -10, 2);
         oneText("plu s", -10, 2);
         oneText("  x", -12, 2);
+        oneText("a", -10, 2);
+        oneText("z", -10, 2);
+        oneText("zlus 1 1 0;", -10, 2);
+        oneText("plut 1 1 0;", -10, 2);
+        oneText("plus 1 1 0 777 x", -21, 1);
+        oneText("plus 1 777 x", -17, 1);
         oneText(";", -10, 2);
         oneText("7", -10, 2);
         oneText("plus 1 1 0;;", -21, 2);
@@ -223,6 +229,7 @@ public final class PromiseTest {
         x.nights(3);
         x.see(0, 0, 0);
         x.keep(1);
+        x.keep(0);
         x.sheet(0, 2, 7);
         x.read(0, 1, 0, 1);
         String was = told(x);
@@ -231,7 +238,7 @@ public final class PromiseTest {
         due("the last byte of the state told", was.charAt(was.length() - 1), '3');
         due("rule(2)", x.rule(2), 3);
         due("count(0)", x.count(0), 1);
-        due("count(1)", x.count(1), 1);
+        due("count(1)", x.count(1), 2);
         due("clerk(0, 1)", x.clerk(0, 1), 2);
         due("text", tell(x, "times 9 9 2;"), 1);
         due("rule(0)", x.rule(0), 1);
@@ -239,6 +246,7 @@ public final class PromiseTest {
         due("rule(2)", x.rule(2), 0);
         due("count(0)", x.count(0), 0);
         due("count(1)", x.count(1), 0);
+        due("back(0)", x.back(0), STATE);
         due("back(1)", x.back(1), STATE);
         due("count(3)", x.count(3), 7);
         due("torn", x.torn(), 3);
@@ -839,6 +847,15 @@ public final class PromiseTest {
         y.see(0, 1, 3);
         due("look(0, 0)", y.look(0, 0), 2);
         due("look(0, 1)", y.look(0, 1), 16);
+        // 1 room a night (B 1, 7 .. 97), 1 STEP every sixth: 13 and 91 (4 STEPS) rest in the 20th night, or the 21st
+        HauntSums z = town("times 13 1 5;clerk 0 1;");
+        z.see(0, 1, 0);
+        due("second(0, 0)", z.second(0, 0), 17);
+        due("look(0, 0)", z.look(0, 0), 20);
+        due("look(0, 1)", z.look(0, 1), 15);
+        HauntSums w = town("times 13 1 4;clerk 0 1;");
+        w.see(0, 1, 5);
+        due("look(0, 0)", w.look(0, 0), NONE);
     }
 
     private static void drift() {
@@ -855,6 +872,12 @@ public final class PromiseTest {
         // then 2524885223 (below 0 as an int), got 5758 (bit 31 is no part of it), clerk 0 in 719, 5: clerk 1 in 4 does 1
         due("drift(1, 2, 0)", x.drift(1, 2, 0), 7 + 5 + 1);
         same("drift", before, x);
+        // of three: 16838 is clerk 2, in 4, who does both STEPS; 5758 is clerk 1, in 5, who does 1: 2 and 1
+        HauntSums z = town("times 2 3 4;times 2 3 5;clerk 0 1;clerk 0 1;clerk 0 2;");
+        due("drift(1, 1, 0)", z.drift(1, 1, 0), 2);
+        due("drift(1, 2, 0)", z.drift(1, 2, 0), 3);
+        due("drift(1, 1, 1)", z.drift(1, 1, 1), 1);
+        due("drift(1, 2, 1)", z.drift(1, 2, 1), 1);
         due("drift of one", town("plus 1 1 0;clerk 4 1;").drift(HIGH, 1, 0), 1);
         HauntSums y = town("plus 1 1 0;");
         due("drift, no clerks", y.drift(1, 1, 0), STATE);
@@ -900,6 +923,18 @@ public final class PromiseTest {
         x.post(0, 0, 1);
         due("back(0)", x.back(0), 4);
         due("clerk(0, 0)", x.clerk(0, 0), 2);
+        // what was seen comes back whole: the ghost, the night, the room
+        HauntSums z = town("plus 1 1 0;plus 6 6 3;");
+        z.see(1, 5, 3);
+        z.see(0, 1, 2);
+        z.keep(0);
+        due("kinds(0)", z.kinds(0), 1);
+        z.forget(0);
+        z.see(0, 2, 1);
+        z.see(1, 3, 0);
+        due("kinds(0)", z.kinds(0), 0);
+        z.back(0);
+        due("kinds(0)", z.kinds(0), 1);
         HauntSums y = new HauntSums();
         y.keep(1);
         due("back(0)", y.back(0), STATE);
@@ -943,6 +978,9 @@ public final class PromiseTest {
         y.sheet(2, 1, 6);
         due("read", y.read(2, 1, 0, 2), 2);
         due("clerk(0, 0)", y.clerk(0, 0), 0);
+        y.lay(2, 0, 9);
+        y.sheet(2, 1, 2);
+        due("read", y.read(2, 1, 0, 1), 1);
     }
 
     private static void lay() {
