@@ -163,6 +163,18 @@ public final class EdgeBestTest {
         Edge.due("the B", x.better(0, 20, 0), 95);
         Edge.due("HARM", x.better(0, 20, 1), 2);
         Edge.due("of several the least: 90 to 99 are apart by 1 figure", x.better(0, 1, 0), 90);
+        // 9 and 1 is 10: 2 STEPS as all up to 90, and no B below it
+        HauntSums least = Edge.town("plus 9 50 3;");
+        Edge.due("the least B there is", least.better(0, 20, 0), 1);
+        Edge.due("HARM", least.better(0, 20, 1), 40);
+        // 9 times 1 has 1 figure, 9 times 2 has 2
+        HauntSums first = Edge.town("times 9 50 3;");
+        Edge.due("by 1 alone", first.better(0, 20, 0), 1);
+        Edge.due("HARM", first.better(0, 20, 1), 40);
+        // 6 and 2 comes to him behind the first NIGHT, 6 and 1 behind the second, 6 and 3 never
+        HauntSums second = Edge.town("plus 6 50 0;clerk 2 1;");
+        Edge.due("by 2 alone", second.better(0, 20, 0), 2);
+        Edge.due("HARM", second.better(0, 20, 1), 1);
         HauntSums y = Edge.town("plus 1 50 3;done 0 20;");
         Edge.due("all alike", y.better(0, 20, 0), 1);
         Edge.due("all alike", y.better(0, 20, 1), 0);

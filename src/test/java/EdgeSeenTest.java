@@ -158,6 +158,20 @@ public final class EdgeSeenTest {
         Edge.due("which of two", x.look(0, 0), 1);
         Edge.due("which of two", x.look(0, 1), 17);
         Edge.due("of so many", x.second(0, 0), 33);
+        // B is 0 or 3 modulo 6: 16 and 17, with 99
+        x.forget(0);
+        x.see(0, 2, 0);
+        Edge.due("the greatest B is one of them", x.look(0, 1), 17);
+        // 5 over B is 5 2 1 1 1, then 0, 94 times
+        HauntSums over = Edge.town("over 5 1 3;");
+        Edge.due("most stay", over.look(0, 0), 1);
+        Edge.due("most stay", over.look(0, 1), 94);
+        // of 2, 8 .. 98 the first alone has 1 STEP: it RESTS where the clerk is, the others go on
+        HauntSums fewer = Edge.town("plus 6 50 1;clerk 3 1;");
+        fewer.see(0, 1, 3);
+        Edge.due("of so many", fewer.second(0, 0), 17);
+        Edge.due("one fewer", fewer.look(0, 0), 2);
+        Edge.due("one fewer", fewer.look(0, 1), 16);
         // 1 room a night (B 1, 7 .. 97), 1 STEP of 2, 4 or 6 each sixth: what has 4 RESTS in the 20th NIGHT
         HauntSums last = Edge.town("times 13 1 5;clerk 0 1;");
         last.see(0, 1, 0);
@@ -245,6 +259,17 @@ public final class EdgeSeenTest {
             oneDrift(Edge.HIGH, clerks, 15929 % clerks, 5);
             // 1 becomes 1103527590: 16838 is got; 2104 is 4 modulo 6
             oneDrift(1, clerks, 16838 % clerks, 4);
+        }
+        for (int i = 0; i < 65536; i++) {
+            long becomes = i * 1103515245L + 12345;
+            // its lowest 16 bits are 0, or 65535: 1 less, or 1 more, and other bits are got
+            boolean edge = becomes % 65536 == 0 || becomes % 65536 == 65535;
+            if (edge || i % 3001 == 0) {
+                int got = (int) (becomes / 65536 % 32768);
+                oneDrift(i, 2, got % 2, got / 8 % 6);
+                oneDrift(i, 3, got % 3, got / 8 % 6);
+                oneDrift(i + Edge.LOW, 3, got % 3, got / 8 % 6);
+            }
         }
         // behind 1103527590 comes 2524885223 (below 0 as an int): 5758 is got; 719 is 5 modulo 6
         HauntSums x = Edge.town("times 40 30 4;times 40 30 5;clerk 0 3;");

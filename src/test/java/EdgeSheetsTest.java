@@ -59,6 +59,26 @@ public final class EdgeSheetsTest {
         String again = Edge.townShown(x);
         Edge.due("nothing is there again", none.equals(again) ? 1 : 0, 1);
         Edge.due("GHOST 0", x.ghost(0, 0), Edge.BAD);
+        Edge.sentence(32, "All is as IMAGE k");
+        // each of two SEEN is another in the other IMAGE: by GHOST, by NIGHTS, by ROOM
+        HauntSums seen = Edge.town("plus 6 7 0;plus 6 8 3;");
+        seen.see(0, 1, 1);
+        seen.see(1, 2, 1);
+        seen.keep(0);
+        seen.forget(0);
+        seen.see(1, 1, 5);
+        seen.see(0, 3, 4);
+        seen.keep(1);
+        Edge.due("not as SEEN", seen.kinds(0), 0);
+        seen.back(0);
+        // 13 goes 1 on, of 6 and 7 no other does so but 1 apart; 14 goes 2 on, of 6 and 8 no other but 2 apart
+        Edge.due("as SEEN", seen.kinds(0), 3);
+        Edge.due("as SEEN", seen.kinds(1), 3);
+        seen.back(1);
+        Edge.due("not as SEEN", seen.kinds(0), 0);
+        seen.forget(1);
+        Edge.due("as SEEN", seen.kinds(1), 3);
+        Edge.due("as SEEN by any", seen.kinds(0), 15);
         Edge.sentence(32, "STATE: there is none.");
         Edge.refused(Edge.Start.NEW, "back(0)", Edge.STATE, z -> z.back(0));
         Edge.refused(Edge.Start.NEW, "back(1)", Edge.STATE, z -> z.back(1));

@@ -166,6 +166,9 @@ public final class EdgeToldTest {
         Edge.due("LEFT of all", x.rule(4), 0);
         // 70 7 77 and 77 7 70
         Edge.due("CREAKS of all", x.rule(5), 4 + 4);
+        x.alter(0, 1, 77);
+        // and 77 99 7623
+        Edge.due("CREAKS of all", x.rule(5), 3 + 4 + 4);
         x.alter(0, 4, 7);
         Edge.due("all but one REST", x.rule(3), 14);
         x.alter(3, 4, 2);
