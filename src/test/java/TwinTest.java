@@ -1,5 +1,8 @@
+import java.lang.reflect.Method;
+import java.lang.reflect.Modifier;
 import java.util.ArrayList;
 import java.util.Arrays;
+import java.util.Comparator;
 import java.util.List;
 import java.util.Random;
 import java.util.TreeSet;
@@ -11,6 +14,8 @@ import java.util.regex.Pattern;
 /** Long random runs of calls against a second program that was written from the document in another way. */
 public final class TwinTest {
     private static final int BAD = -1, STATE = -2, FULL = -3, NONE = -4;
+    /** What the document promises of one object: "at most 512 calls after it has been made". */
+    private static final int CALLS = 512;
 
     private static final class Ghost {
         int kind, a, b, room, done;
@@ -137,6 +142,14 @@ public final class TwinTest {
         final State[] images = new State[2];
         final Object[] sheets = new Object[4];
         int fault, torn;
+
+        int fault() {
+            return fault;
+        }
+
+        int torn() {
+            return torn;
+        }
 
         boolean g(int g) {
             return g >= 0 && g < now.ghosts.size();
@@ -763,11 +776,14 @@ public final class TwinTest {
 
     private void tellText() {
         String text = anyText();
+        if (made + text.length() + 2 > CALLS) {
+            return;
+        }
         for (int i = 0; i < text.length(); i++) {
             feed(text.charAt(i));
         }
         check("text()", x.text(), y.text());
-        check("fault()", x.fault(), y.fault);
+        check("fault()", x.fault(), y.fault());
     }
 
     private void feed(int c) {
@@ -937,7 +953,7 @@ public final class TwinTest {
                 check("read(" + k + ", " + lane + ", " + i + ", " + n + ")", x.read(k, lane, i, n), y.read(k, lane, i, n));
                 break;
             case 5:
-                check("torn()", x.torn(), y.torn);
+                check("torn()", x.torn(), y.torn());
                 break;
             default:
                 int what = pick(0, 4);
@@ -958,7 +974,7 @@ public final class TwinTest {
                 check("nights(30)", x.nights(30), y.nights(30));
             }
         }
-        while (made < 350 && wrong == 0) {
+        while (made < CALLS && wrong == 0) {
             switch (random.nextInt(12)) {
                 case 0:
                     if (random.nextInt(4) == 0) {
@@ -989,16 +1005,43 @@ public final class TwinTest {
         }
     }
 
-    public static void main(String[] args) {
+    /** All calls alike, by numbers that need not fit them; a call that throws ends the test. */
+    private void strangeObject() throws ReflectiveOperationException {
+        x = new HauntSums();
+        y = new Twin();
+        made = 0;
+        calls.setLength(0);
+        tellText();
+        while (made < CALLS && wrong == 0) {
+            Method theirs = METHODS.get(random.nextInt(METHODS.size()));
+            Class<?>[] sorts = theirs.getParameterTypes();
+            Object[] numbers = new Object[sorts.length];
+            for (int i = 0; i < numbers.length; i++) {
+                numbers[i] = random.nextInt(4) == 0 ? STRANGE[random.nextInt(STRANGE.length)] : random.nextInt(5);
+            }
+            Method ours = Twin.class.getDeclaredMethod(theirs.getName(), sorts);
+            long got = ((Number) theirs.invoke(x, numbers)).longValue();
+            long want = ((Number) ours.invoke(y, numbers)).longValue();
+            check(theirs.getName() + Arrays.toString(numbers), got, want);
+        }
+    }
+
+    private static final List<Method> METHODS = Arrays.stream(HauntSums.class.getDeclaredMethods())
+        .filter(m -> Modifier.isPublic(m.getModifiers())).sorted(Comparator.comparing(Method::getName)).toList();
+
+    public static void main(String[] args) throws ReflectiveOperationException {
         int objects = args.length > 0 ? Integer.parseInt(args[0]) : 150;
         for (int i = 0; i < objects; i++) {
             TwinTest t = new TwinTest(i);
             t.oneObject();
-            if (t.wrong != 0) {
-                System.out.println("object " + i);
+            if (t.wrong == 0 && t.made == CALLS) {
+                t.strangeObject();
+            }
+            if (t.wrong != 0 || t.made != CALLS) {
+                System.out.println("object " + i + " behind " + t.made + " calls");
                 System.exit(1);
             }
         }
-        System.out.println(objects + " objects answered as their twins");
+        System.out.println(2 * objects + " objects answered as their twins, up to the " + CALLS + "th call");
     }
 }
